@@ -20,32 +20,41 @@ public final class FaceTest {
         "boolean startLookup(int,int);boolean startPut(int,int,int);boolean startRemove(int,int);"
         + "int step(int);int run(int);int peek(int);int instance(int,int);int reader(int,int);"
         + "int writer(int,int);int global(int)";
+    private static final Class<?> FACE = LeftRightMap.class;
     private static final Due DUE = new Due();
 
-    public static void main(String[] args) throws IllegalAccessException {
-        Class<?> face = LeftRightMap.class;
-        DUE.due("public final", Modifier.isPublic(face.getModifiers()) && Modifier.isFinal(face.getModifiers()), true);
-        DUE.due("superclass is Object", face.getSuperclass() == Object.class, true);
-        DUE.due("nested classes and interfaces",
-            face.getDeclaredClasses().length + face.getInterfaces().length, 0);
-        constants(face);
-        methods(face);
-        Constructor<?>[] constructors = face.getDeclaredConstructors();
-        DUE.due("constructors", constructors.length, 1);
-        DUE.due("the constructor",
-            constructors[0].toString().equals("public LeftRightMap(int,int,int)"), true);
+    public static void main(String[] args) {
+        DUE.test("public final class LeftRightMap", FaceTest::theClass);
+        DUE.test("Public constants", FaceTest::constants);
+        DUE.test("The public face: methods", FaceTest::methods);
+        DUE.test("The public face: the constructor", FaceTest::constructors);
         DUE.end();
     }
 
-    private static void constants(Class<?> face) throws IllegalAccessException {
+    private static void theClass() {
+        int modifiers = FACE.getModifiers();
+        DUE.due("public final", Modifier.isPublic(modifiers) && Modifier.isFinal(modifiers), true);
+        DUE.due("superclass is Object", FACE.getSuperclass() == Object.class, true);
+        DUE.due("nested classes and interfaces",
+            FACE.getDeclaredClasses().length + FACE.getInterfaces().length, 0);
+    }
+
+    private static void constructors() {
+        Constructor<?>[] constructors = FACE.getDeclaredConstructors();
+        DUE.due("constructors", constructors.length, 1);
+        DUE.due("the constructor",
+            constructors[0].toString().equals("public LeftRightMap(int,int,int)"), true);
+    }
+
+    private static void constants() {
         TreeSet<String> found = new TreeSet<>();
         int others = 0;
-        for (Field field : face.getDeclaredFields()) {
+        for (Field field : FACE.getDeclaredFields()) {
             int modifiers = field.getModifiers();
             boolean constant = Modifier.isStatic(modifiers) && Modifier.isFinal(modifiers);
             boolean isPrivate = Modifier.isPrivate(modifiers);
             if (Modifier.isPublic(modifiers) && constant && field.getType() == int.class) {
-                found.add(field.getName() + "=" + field.getInt(null));
+                found.add(field.getName() + "=" + valueOf(field));
                 continue;
             }
             DUE.due(field + " is private", isPrivate, true);
@@ -56,17 +65,25 @@ public final class FaceTest {
         DUE.due("at most forty fields beside the constants", others <= 40, true);
     }
 
-    private static void methods(Class<?> face) {
+    private static int valueOf(Field field) {
+        try {
+            return field.getInt(null);
+        } catch (IllegalAccessException thrown) {
+            throw new IllegalStateException(thrown);
+        }
+    }
+
+    private static void methods() {
         TreeSet<String> found = new TreeSet<>();
         TreeSet<String> publicNames = new TreeSet<>();
-        for (Method method : face.getDeclaredMethods()) {
+        for (Method method : FACE.getDeclaredMethods()) {
             if (Modifier.isPublic(method.getModifiers())) {
                 found.add(method.toString().replace("public ", "").replace("LeftRightMap.", ""));
                 publicNames.add(method.getName());
             }
         }
         same("public methods", found, new TreeSet<>(Arrays.asList(METHODS.split(";"))));
-        for (Method method : face.getDeclaredMethods()) {
+        for (Method method : FACE.getDeclaredMethods()) {
             if (!Modifier.isPublic(method.getModifiers())) {
                 DUE.due(method + " is private", Modifier.isPrivate(method.getModifiers()), true);
                 DUE.due(method + " bears a public name", publicNames.contains(method.getName()), false);

@@ -13,13 +13,17 @@ public final class MixedRunsTest {
     private static int inside;
 
     public static void main(String[] args) {
+        DUE.test("promises 2 to 11 together", MixedRunsTest::mixedRuns);
+        DUE.end();
+    }
+
+    private static void mixedRuns() {
         for (int run = 0; run < RUNS && DUE.wrong() == 0; run++) {
             seed = run;
             mixedRun("run " + run);
         }
         DUE.due("there were waits", waits > 1000, true);
         DUE.due("there were readers inside", inside > 1000, true);
-        DUE.end();
     }
 
     private static int below(int bound) {

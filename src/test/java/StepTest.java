@@ -1,285 +1,158 @@
-/** Promise 5: step, one phase after the other, with all that a step changes and nothing else. */
+import java.util.Map;
+
+/** Promise 5: step, whom it steps, whom not, and what every step does. */
 public final class StepTest {
-    private static final int MOVED = LeftRightMap.STEP_MOVED;
-    private static final int WAITED = LeftRightMap.STEP_WAITED;
+    private static final int MIN = Integer.MIN_VALUE;
+    private static final int MAX = Integer.MAX_VALUE;
     private static final Due DUE = new Due();
 
-    private static LeftRightMap x;
-    private static int steps;
-
     public static void main(String[] args) {
-        noStepOfNobody();
-        readerPhases();
-        putOfNewKey();
-        putOfOldKey();
-        putWhenFull();
-        putOfOldKeyWhenFull();
-        removeOfOldKey();
-        removeOfAbsentKey();
-        removedKeysLeaveRoom();
-        waitsForLock();
-        waitsForNextReaders();
-        waitsForPreviousReaders();
+        DUE.test("If agent < 0 it answers STEP_NONE and changes nothing", StepTest::agentTooSmall);
+        DUE.test("or agent >= readers + writers", StepTest::agentTooLarge);
+        DUE.test("or the agent is not active: R_IDLE and W_IDLE", StepTest::idleAgents);
+        DUE.test("or the agent is not active: R_DONE", StepTest::doneReader);
+        DUE.test("or the agent is not active: W_DONE", StepTest::doneWriter);
+        DUE.test("or the agent is not active: W_DONE with FULL", StepTest::fullWriter);
+        DUE.test("writer w has agent number readers + w", StepTest::agentNumbers);
+        DUE.test("answers STEP_MOVED or STEP_WAITED and adds 1 to steps", StepTest::stepsAreCounted);
+        DUE.test("It never changes cursor", StepTest::cursorStays);
+        DUE.test("it changes no field of any other agent", StepTest::othersStay);
         DUE.end();
     }
 
-    private static void fresh(int capacity, int readers, int writers) {
-        x = new LeftRightMap(capacity, readers, writers);
-        watch();
-    }
-
-    private static void watch() {
-        steps = x.global(LeftRightMap.G_STEPS);
-        DUE.watch(x);
-    }
-
-    /** One step of an active agent, which counts itself, changes what is named and nothing else. */
-    private static void step(String phase, int agent, int answer, Object... namesAndValues) {
-        DUE.due("step(" + agent + ") in " + phase, x.step(agent), answer);
-        steps++;
-        Object[] all = new Object[namesAndValues.length + 2];
-        System.arraycopy(namesAndValues, 0, all, 0, namesAndValues.length);
-        all[all.length - 2] = "steps";
-        all[all.length - 1] = steps;
-        DUE.changes("step(" + agent + ") in " + phase, all);
-    }
-
-    private static void noStep(int agent) {
-        DUE.due("step(" + agent + ")", x.step(agent), LeftRightMap.STEP_NONE);
-        DUE.changes("step(" + agent + ")");
-    }
-
-    private static void put(int w, int key, int value) {
-        DUE.due("startPut", x.startPut(w, key, value), true);
-        watch();
-    }
-
-    private static void remove(int w, int key) {
-        DUE.due("startRemove", x.startRemove(w, key), true);
-        watch();
-    }
-
-    private static void lookup(int r, int key) {
-        DUE.due("startLookup", x.startLookup(r, key), true);
-        watch();
-    }
-
-    private static void noStepOfNobody() {
-        fresh(4, 2, 2);
-        int[] agents = {0, 1, 2, 3, -1, 4, 5, Integer.MIN_VALUE, Integer.MAX_VALUE};
-        for (int agent : agents) {
-            noStep(agent);
+    private static LeftRightMap allStarted(int readers, int writers) {
+        LeftRightMap x = new LeftRightMap(4, readers, writers);
+        for (int r = 0; r < readers; r++) {
+            x.startLookup(r, r);
         }
-        x.startLookup(0, 1);
-        x.startPut(1, 1, 1);
-        watch();
-        int[] others = {1, 2, -1, 4, 5, Integer.MIN_VALUE, Integer.MAX_VALUE};
-        for (int agent : others) {
-            noStep(agent);
+        for (int w = 0; w < writers; w++) {
+            x.startPut(w, w, w);
         }
-        x.run(64);
-        watch();
-        for (int agent : agents) {
-            noStep(agent);
+        return x;
+    }
+
+    private static void agentTooSmall() {
+        for (int[] sizes : new int[][] {{1, 1}, {3, 2}, {8, 4}}) {
+            Stepping s = new Stepping(DUE, allStarted(sizes[0], sizes[1]));
+            for (int agent : new int[] {-1, -2, -12, MIN + 1, MIN}) {
+                s.noStep(agent);
+            }
+            s.step("R_READ_VERSION", 0, Stepping.MOVED, "r0 version", 0, "r0 phase", LeftRightMap.R_ARRIVE);
         }
     }
 
-    private static void readerPhases() {
-        fresh(4, 2, 1);
-        lookup(0, 7);
-        step("R_READ_VERSION", 0, MOVED, "r0 version", 0, "r0 phase", LeftRightMap.R_ARRIVE);
-        step("R_ARRIVE", 0, MOVED, "indicator0", 1, "r0 phase", LeftRightMap.R_READ_SIDE);
-        step("R_READ_SIDE", 0, MOVED, "r0 side", 0, "r0 phase", LeftRightMap.R_LOOKUP);
-        step("R_LOOKUP", 0, MOVED, "r0 result", LeftRightMap.ABSENT, "r0 phase", LeftRightMap.R_DEPART);
-        step("R_DEPART", 0, MOVED, "indicator0", 0, "r0 phase", LeftRightMap.R_DONE);
-        noStep(0);
-        put(0, 7, 70);
-        x.run(7);
-        lookup(1, 7);
-        step("R_READ_VERSION", 1, MOVED, "r1 version", 1, "r1 phase", LeftRightMap.R_ARRIVE);
-        step("R_ARRIVE", 1, MOVED, "indicator1", 1, "r1 phase", LeftRightMap.R_READ_SIDE);
-        step("R_READ_SIDE", 1, MOVED, "r1 side", 1, "r1 phase", LeftRightMap.R_LOOKUP);
-        lookup(0, 7);
-        step("R_READ_VERSION", 0, MOVED, "r0 version", 1, "r0 phase", LeftRightMap.R_ARRIVE);
-        step("R_ARRIVE", 0, MOVED, "indicator1", 2, "r0 phase", LeftRightMap.R_READ_SIDE);
-        step("R_LOOKUP", 1, MOVED, "r1 result", 70, "r1 phase", LeftRightMap.R_DEPART);
-        step("R_DEPART", 1, MOVED, "indicator1", 1, "r1 phase", LeftRightMap.R_DONE);
-        noStep(1);
-    }
-
-    private static void putOfNewKey() {
-        fresh(4, 1, 2);
-        put(1, 7, 70);
-        step("W_LOCK", 2, MOVED, "lock", 1, "w1 phase", LeftRightMap.W_APPLY_IDLE);
-        step("W_APPLY_IDLE", 2, MOVED, "w1 side", 1, "i1 7", 70, "w1 result", LeftRightMap.ABSENT,
-            "w1 phase", LeftRightMap.W_FLIP);
-        step("W_FLIP", 2, MOVED, "leftRight", 1, "size", 1, "peek 7", 70,
-            "w1 phase", LeftRightMap.W_DRAIN_NEXT);
-        step("W_DRAIN_NEXT", 2, MOVED, "w1 version", 0, "w1 phase", LeftRightMap.W_TOGGLE);
-        step("W_TOGGLE", 2, MOVED, "versionIndex", 1, "w1 phase", LeftRightMap.W_DRAIN_PREV);
-        step("W_DRAIN_PREV", 2, MOVED, "w1 phase", LeftRightMap.W_APPLY_OLD);
-        step("W_APPLY_OLD", 2, MOVED, "i0 7", 70, "lock", LeftRightMap.NONE, "w1 phase", LeftRightMap.W_DONE);
-        noStep(2);
-    }
-
-    private static void putOfOldKey() {
-        fresh(4, 1, 1);
-        put(0, 7, 70);
-        x.run(64);
-        put(0, 7, 0);
-        step("W_LOCK", 1, MOVED, "lock", 0, "w0 phase", LeftRightMap.W_APPLY_IDLE);
-        step("W_APPLY_IDLE", 1, MOVED, "w0 side", 0, "i0 7", 0, "w0 result", 70,
-            "w0 phase", LeftRightMap.W_FLIP);
-        step("W_FLIP", 1, MOVED, "leftRight", 0, "peek 7", 0, "w0 phase", LeftRightMap.W_DRAIN_NEXT);
-        step("W_DRAIN_NEXT", 1, MOVED, "w0 version", 1, "w0 phase", LeftRightMap.W_TOGGLE);
-        step("W_TOGGLE", 1, MOVED, "versionIndex", 0, "w0 phase", LeftRightMap.W_DRAIN_PREV);
-        step("W_DRAIN_PREV", 1, MOVED, "w0 phase", LeftRightMap.W_APPLY_OLD);
-        step("W_APPLY_OLD", 1, MOVED, "i1 7", 0, "lock", LeftRightMap.NONE, "w0 phase", LeftRightMap.W_DONE);
-    }
-
-    private static void fill(int capacity) {
-        fresh(capacity, 1, 2);
-        for (int i = 0; i < capacity; i++) {
-            put(0, 9999 - i, 100 + i);
-            DUE.due("run(64)", x.run(64), 7);
-            DUE.due("writer(0, FIELD_RESULT)", x.writer(0, LeftRightMap.FIELD_RESULT), LeftRightMap.ABSENT);
-        }
-        DUE.due("global(G_SIZE)", x.global(LeftRightMap.G_SIZE), capacity);
-    }
-
-    private static void putWhenFull() {
-        for (int capacity = 4; capacity <= 16; capacity++) {
-            fill(capacity);
-            int side = 1 - x.global(LeftRightMap.G_LEFT_RIGHT);
-            put(1, 5, 50);
-            step("W_LOCK", 2, MOVED, "lock", 1, "w1 phase", LeftRightMap.W_APPLY_IDLE);
-            step("W_APPLY_IDLE", 2, MOVED, "w1 side", side, "w1 result", LeftRightMap.FULL,
-                "lock", LeftRightMap.NONE, "w1 phase", LeftRightMap.W_DONE);
-            noStep(2);
+    private static void agentTooLarge() {
+        for (int[] sizes : new int[][] {{1, 1}, {3, 2}, {8, 4}, {1, 4}, {8, 1}}) {
+            int agents = sizes[0] + sizes[1];
+            int last = sizes[1] - 1;
+            Stepping s = new Stepping(DUE, allStarted(sizes[0], sizes[1]));
+            for (int agent : new int[] {agents, agents + 1, 12, 13, 16, MAX - 1, MAX}) {
+                s.noStep(agent);
+            }
+            s.step("W_LOCK", agents - 1, Stepping.MOVED, "lock", last,
+                "w" + last + " phase", LeftRightMap.W_APPLY_IDLE);
         }
     }
 
-    private static void putOfOldKeyWhenFull() {
-        for (int capacity = 4; capacity <= 16; capacity += 12) {
-            fill(capacity);
-            put(1, 9999 - capacity + 1, 999999);
-            DUE.due("run(64)", x.run(64), 7);
-            DUE.due("writer(1, FIELD_RESULT)", x.writer(1, LeftRightMap.FIELD_RESULT), 99 + capacity);
-            DUE.due("instance(0, last key)", x.instance(0, 9999 - capacity + 1), 999999);
-            DUE.due("instance(1, last key)", x.instance(1, 9999 - capacity + 1), 999999);
+    private static void idleAgents() {
+        Stepping s = new Stepping(DUE, new LeftRightMap(16, 8, 4));
+        for (int agent = 0; agent < 12; agent++) {
+            s.noStep(agent);
+        }
+        s.lookup(3, 1);
+        s.put(2, 1, 1);
+        for (int agent : new int[] {0, 1, 2, 4, 5, 6, 7, 8, 9, 11}) {
+            s.noStep(agent);
         }
     }
 
-    private static void removeOfOldKey() {
-        fresh(4, 1, 1);
-        for (int key = 1; key <= 3; key++) {
-            put(0, key, 10 * key);
-            x.run(64);
-        }
-        remove(0, 1);
-        step("W_LOCK", 1, MOVED, "lock", 0, "w0 phase", LeftRightMap.W_APPLY_IDLE);
-        step("W_APPLY_IDLE", 1, MOVED, "w0 side", 0, "i0 1", State.GONE, "w0 result", 10,
-            "w0 phase", LeftRightMap.W_FLIP);
-        step("W_FLIP", 1, MOVED, "leftRight", 0, "size", 2, "peek 1", State.GONE,
-            "w0 phase", LeftRightMap.W_DRAIN_NEXT);
-        step("W_DRAIN_NEXT", 1, MOVED, "w0 version", 1, "w0 phase", LeftRightMap.W_TOGGLE);
-        step("W_TOGGLE", 1, MOVED, "versionIndex", 0, "w0 phase", LeftRightMap.W_DRAIN_PREV);
-        step("W_DRAIN_PREV", 1, MOVED, "w0 phase", LeftRightMap.W_APPLY_OLD);
-        step("W_APPLY_OLD", 1, MOVED, "i1 1", State.GONE, "lock", LeftRightMap.NONE,
-            "w0 phase", LeftRightMap.W_DONE);
+    private static void doneReader() {
+        LeftRightMap x = new LeftRightMap(4, 2, 1);
+        x.startLookup(0, 5);
+        Drive.lookup(x, 1, 5);
+        Stepping s = new Stepping(DUE, x);
+        s.noStep(1);
+        s.noStep(1);
+        s.step("R_READ_VERSION", 0, Stepping.MOVED, "r0 version", 0, "r0 phase", LeftRightMap.R_ARRIVE);
     }
 
-    private static void removeOfAbsentKey() {
-        fresh(4, 1, 1);
-        remove(0, 0);
-        step("W_LOCK", 1, MOVED, "lock", 0, "w0 phase", LeftRightMap.W_APPLY_IDLE);
-        step("W_APPLY_IDLE", 1, MOVED, "w0 side", 1, "w0 result", LeftRightMap.ABSENT,
-            "w0 phase", LeftRightMap.W_FLIP);
-        step("W_FLIP", 1, MOVED, "leftRight", 1, "w0 phase", LeftRightMap.W_DRAIN_NEXT);
-        step("W_DRAIN_NEXT", 1, MOVED, "w0 version", 0, "w0 phase", LeftRightMap.W_TOGGLE);
-        step("W_TOGGLE", 1, MOVED, "versionIndex", 1, "w0 phase", LeftRightMap.W_DRAIN_PREV);
-        step("W_DRAIN_PREV", 1, MOVED, "w0 phase", LeftRightMap.W_APPLY_OLD);
-        step("W_APPLY_OLD", 1, MOVED, "lock", LeftRightMap.NONE, "w0 phase", LeftRightMap.W_DONE);
+    private static void doneWriter() {
+        LeftRightMap x = new LeftRightMap(4, 1, 2);
+        Drive.put(x, 0, 5, 50);
+        Drive.remove(x, 1, 5);
+        Stepping s = new Stepping(DUE, x);
+        s.noStep(1);
+        s.noStep(2);
     }
 
-    private static void removedKeysLeaveRoom() {
-        fill(4);
-        remove(0, 9997);
-        x.run(64);
-        DUE.due("global(G_SIZE)", x.global(LeftRightMap.G_SIZE), 3);
-        put(1, 9997, 5);
-        DUE.due("run(64)", x.run(64), 7);
-        DUE.due("writer(1, FIELD_RESULT)", x.writer(1, LeftRightMap.FIELD_RESULT), LeftRightMap.ABSENT);
-        DUE.due("global(G_SIZE)", x.global(LeftRightMap.G_SIZE), 4);
-        for (int i = 0; i < 4; i++) {
-            int value = i == 2 ? 5 : 100 + i;
-            DUE.due("instance(0, " + (9999 - i) + ")", x.instance(0, 9999 - i), value);
-            DUE.due("instance(1, " + (9999 - i) + ")", x.instance(1, 9999 - i), value);
+    private static void fullWriter() {
+        LeftRightMap x = new LeftRightMap(4, 1, 1);
+        Drive.fill(x, 4);
+        Drive.put(x, 0, 9, 9);
+        DUE.due("writer(0, FIELD_RESULT)", x.writer(0, LeftRightMap.FIELD_RESULT), LeftRightMap.FULL);
+        Stepping s = new Stepping(DUE, x);
+        s.noStep(1);
+        s.noStep(1);
+    }
+
+    private static void agentNumbers() {
+        for (int readers = 1; readers <= 8; readers++) {
+            for (int w = 0; w < 4; w++) {
+                Stepping s = new Stepping(DUE, allStarted(readers, 4));
+                s.step("W_LOCK", readers + w, Stepping.MOVED, "lock", w,
+                    "w" + w + " phase", LeftRightMap.W_APPLY_IDLE);
+            }
+            for (int r = 0; r < readers; r++) {
+                Stepping s = new Stepping(DUE, allStarted(readers, 4));
+                s.step("R_READ_VERSION", r, Stepping.MOVED, "r" + r + " version", 0,
+                    "r" + r + " phase", LeftRightMap.R_ARRIVE);
+            }
         }
     }
 
-    private static void waitsForLock() {
-        fresh(4, 1, 3);
-        x.startPut(0, 1, 10);
-        x.startPut(2, 2, 20);
-        watch();
-        step("W_LOCK", 3, MOVED, "lock", 2, "w2 phase", LeftRightMap.W_APPLY_IDLE);
-        for (int i = 0; i < 6; i++) {
-            step("W_LOCK with the lock held", 1, WAITED);
-            x.step(3);
-            watch();
+    private static void stepsAreCounted() {
+        LeftRightMap x = allStarted(2, 2);
+        int due = 0;
+        for (int i = 0; i < 200; i++) {
+            int answer = x.step(i % 6 - 1);
+            due += answer == LeftRightMap.STEP_MOVED || answer == LeftRightMap.STEP_WAITED ? 1 : 0;
+            DUE.due("global(G_STEPS) after " + i + " calls", x.global(LeftRightMap.G_STEPS), due);
         }
-        step("W_LOCK with the lock free", 1, MOVED, "lock", 0, "w0 phase", LeftRightMap.W_APPLY_IDLE);
+        DUE.due("two lookups and two puts move", due >= 2 * 5 + 2 * 7, true);
     }
 
-    /** A reader that read version 0 joins its counter only after the versions were toggled. */
-    private static void waitsForNextReaders() {
-        fresh(4, 1, 1);
-        x.startLookup(0, 7);
-        x.step(0);
-        x.startPut(0, 7, 70);
-        for (int i = 0; i < 7; i++) {
-            x.step(1);
+    private static void cursorStays() {
+        for (int cursor = 0; cursor < 4; cursor++) {
+            LeftRightMap x = allStarted(2, 2);
+            x.run(4 + cursor);
+            DUE.due("global(G_CURSOR)", x.global(LeftRightMap.G_CURSOR), cursor);
+            for (int i = 0; i < 200; i++) {
+                x.step(i % 6 - 1);
+                DUE.due("global(G_CURSOR) after a step", x.global(LeftRightMap.G_CURSOR), cursor);
+            }
         }
-        x.step(0);
-        x.step(0);
-        DUE.due("global(G_INDICATOR0)", x.global(LeftRightMap.G_INDICATOR0), 1);
-        x.startPut(0, 7, 71);
-        for (int i = 0; i < 3; i++) {
-            x.step(1);
-        }
-        watch();
-        step("W_DRAIN_NEXT with a reader", 1, WAITED, "w0 version", 1);
-        step("W_DRAIN_NEXT with a reader", 1, WAITED);
-        step("R_LOOKUP", 0, MOVED, "r0 result", 70, "r0 phase", LeftRightMap.R_DEPART);
-        step("W_DRAIN_NEXT with a reader", 1, WAITED);
-        step("R_DEPART", 0, MOVED, "indicator0", 0, "r0 phase", LeftRightMap.R_DONE);
-        step("W_DRAIN_NEXT", 1, MOVED, "w0 phase", LeftRightMap.W_TOGGLE);
     }
 
-    private static void waitsForPreviousReaders() {
-        fresh(4, 2, 1);
-        x.startLookup(0, 7);
-        x.step(0);
-        x.step(0);
-        x.step(0);
-        x.startPut(0, 7, 70);
-        for (int i = 0; i < 3; i++) {
-            x.step(2);
+    /** In a state where nobody's fields are as at the start, every agent does every step that it can. */
+    private static void othersStay() {
+        LeftRightMap x = Drive.busy();
+        x.startLookup(3, 5);
+        x.startRemove(2, 5);
+        x.startRemove(0, 6);
+        for (int i = 0; i < 200; i++) {
+            int agent = i % 7;
+            String own = agent < 4 ? "r" + agent + " " : "w" + (agent - 4) + " ";
+            Map<String, Integer> before = State.of(x, 10);
+            x.step(agent);
+            Map<String, Integer> after = State.of(x, 10);
+            dropAllBut(before, own);
+            dropAllBut(after, own);
+            DUE.sameState("step(" + agent + ") for the other agents", after, before);
         }
-        watch();
-        step("W_DRAIN_NEXT", 2, MOVED, "w0 version", 0, "w0 phase", LeftRightMap.W_TOGGLE);
-        step("W_TOGGLE", 2, MOVED, "versionIndex", 1, "w0 phase", LeftRightMap.W_DRAIN_PREV);
-        step("W_DRAIN_PREV with a reader", 2, WAITED);
-        lookup(1, 7);
-        step("R_READ_VERSION", 1, MOVED, "r1 version", 1, "r1 phase", LeftRightMap.R_ARRIVE);
-        step("R_ARRIVE", 1, MOVED, "indicator1", 1, "r1 phase", LeftRightMap.R_READ_SIDE);
-        step("R_READ_SIDE", 1, MOVED, "r1 side", 1, "r1 phase", LeftRightMap.R_LOOKUP);
-        step("R_LOOKUP", 0, MOVED, "r0 result", LeftRightMap.ABSENT, "r0 phase", LeftRightMap.R_DEPART);
-        step("W_DRAIN_PREV with a reader", 2, WAITED);
-        step("R_DEPART", 0, MOVED, "indicator0", 0, "r0 phase", LeftRightMap.R_DONE);
-        step("W_DRAIN_PREV", 2, MOVED, "w0 phase", LeftRightMap.W_APPLY_OLD);
-        step("W_APPLY_OLD", 2, MOVED, "i0 7", 70, "lock", LeftRightMap.NONE, "w0 phase", LeftRightMap.W_DONE);
-        step("R_LOOKUP", 1, MOVED, "r1 result", 70, "r1 phase", LeftRightMap.R_DEPART);
+    }
+
+    /** Leaves the fields of the agents other than the one whose names begin so. */
+    private static void dropAllBut(Map<String, Integer> state, String own) {
+        state.keySet().removeIf(name -> !name.matches("[rw][0-9] .*") || name.startsWith(own));
     }
 }

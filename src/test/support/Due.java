@@ -5,8 +5,33 @@ import java.util.TreeMap;
 final class Due {
     private int wrong = 0;
     private int checked = 0;
+    private int tests = 0;
     private LeftRightMap watched;
     private Map<String, Integer> seen;
+
+    /**
+     * The test of one sentence of the document, told by the sentence's own words. One that fails does not
+     * keep the next ones from running, and one that checks nothing fails.
+     */
+    void test(String sentence, Runnable body) {
+        tests++;
+        int wrongBefore = wrong;
+        int checkedBefore = checked;
+        watched = null;
+        try {
+            body.run();
+        } catch (RuntimeException | StackOverflowError thrown) {
+            wrong++;
+            System.out.println("thrown: " + thrown + " at " + thrown.getStackTrace()[0]);
+        }
+        if (checked == checkedBefore) {
+            wrong++;
+            System.out.println("nothing was checked");
+        }
+        if (wrong != wrongBefore) {
+            System.out.println("^ in the test of: " + sentence);
+        }
+    }
 
     void due(String call, long got, long want) {
         checked++;
@@ -63,7 +88,7 @@ final class Due {
     }
 
     void end() {
-        System.out.println(checked + " checks, " + wrong + " not as due");
+        System.out.println(tests + " tests, " + checked + " checks, " + wrong + " not as due");
         if (wrong != 0 || checked == 0) {
             System.exit(1);
         }
