@@ -63,6 +63,7 @@ public final class LeftRightMap {
     private static final int MAX_RUN = 64;
     private static final int SIDES = 2;
     private static final int SLOTS = SIDES * MAX_CAPACITY;
+    private static final int VERSIONS = 2;
 
     private final int capacity;
     private final int readers;
@@ -75,7 +76,7 @@ public final class LeftRightMap {
 
     private int leftRight = 0;
     private int versionIndex = 0;
-    private final int[] indicator = new int[SIDES];
+    private final int[] indicator = new int[VERSIONS];
     private int lock = NONE;
     private int cursor = 0;
     private int steps = 0;
